@@ -27,7 +27,7 @@ public final class ClearingHouse {
     private static final int MAX_MEMBERS = 8;
     private static final int MIN_INSTRUMENTS = 1;
     private static final int MAX_INSTRUMENTS = 4;
-    private static final int POSITION_SLOTS = 32;
+    private static final int POSITION_SLOTS = MAX_MEMBERS * MAX_INSTRUMENTS;
     private static final int MAX_HOUSE_CAPITAL = 1000000;
     private static final int MIN_RISK_PERCENT = 1;
     private static final int MAX_RISK_PERCENT = 50;
@@ -364,7 +364,6 @@ public final class ClearingHouse {
     private void clearBids() {
         for (int m = 0; m < memberCount; m++) {
             hasBid[m] = false;
-            bidAmount[m] = 0;
         }
     }
 

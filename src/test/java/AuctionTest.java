@@ -16,6 +16,7 @@ public final class AuctionTest {
         forcesThePortfolioOnTheFirst();
         forcesThePortfolioByFunds();
         forcesShortsAndSmallQuantities();
+        mixesWholeAndBrokenParts();
         passesOverMembersWithoutFunds();
         goesAboveTheLimit();
         leavesCashWithTheDefaulter();
@@ -149,6 +150,17 @@ public final class AuctionTest {
         positions(house, 1, -5 + 2, 2, 0, 1);
         positions(house, 2, 4, -4, 0, 0);
         layers(house, 0, 0, 0, 0, 0, FORCED, 0);
+    }
+
+    /** 2 over 2, 1 and 1: one part comes out even and still gets the unit left over, being the first. */
+    private static void mixesWholeAndBrokenParts() {
+        Check.title("no bid, an even part");
+        ClearingHouse house = Scene.called(4, 8000, 0, 2, 1, 1);
+        Check.yes("two of another instrument", house.trade(0, 1, 1, 2));
+        Check.yes("default", house.declareDefault(0));
+        Check.yes("close", house.closeAuction());
+        positions(house, 0, 0, -100 + 50, 25, 25);
+        positions(house, 1, 0, -2 + 2, 0, 0);
     }
 
     private static void passesOverMembersWithoutFunds() {
