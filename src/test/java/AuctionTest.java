@@ -1,6 +1,6 @@
 import java.math.BigInteger;
 
-/** Promise 10, closeAuction, and promise 17, getWaterfall. Member 0 has lost Scene.LOSS in most of them. */
+/** Promise 10, closeAuction, and promise 17, getWaterfall. Member 0 has lost 8000 in most of them. */
 public final class AuctionTest {
     private static final int CASH = ClearingHouse.CASH;
     private static final int FUND = ClearingHouse.FUND;

@@ -1,11 +1,8 @@
 /** Houses brought to a moment that many tests begin with. */
 final class Scene {
-    /** What member 0 has lost in the scenes below; its cash is the negative of it. */
-    static final int LOSS = 8000;
-
     private Scene() { }
 
-    /** Member 0 is long 100 of instrument 0 against member 1, the price has gone from 100 to 20, calls are out. */
+    /** Member 0 is long 100 of instrument 0 against member 1, the price has gone from 100 to 20, calls are out: its cash is -8000. */
     static ClearingHouse called(int members, int houseCapital, int... funds) {
         ClearingHouse house = new ClearingHouse(members, 2, houseCapital, 10);
         for (int m = 0; m < funds.length; m++) {
