@@ -1,3 +1,4 @@
+import java.util.Collections;
 import java.util.Map;
 import java.util.TreeMap;
 
@@ -42,7 +43,8 @@ public final class ModelTest {
             "callMargins false", "declareDefault true", "declareDefault false", "bid true", "bid false",
             "closeAuction true", "closeAuction false", "sold", "allocated", "allocated without funds", "no loss",
             "defaulter fund", "house", "survivor funds in part", "survivor funds whole", "house excess",
-            "house below 0", "third default", "above the limit"}) {
+            "house below 0", "house below 0 before", "third default", "above the limit", "a tie", "a bid below 0 wins",
+            "a bid of 0 wins", "a short allocated", "units left over"}) {
             Check.yes(kind + " at least 20 times", SEEN.getOrDefault(kind, 0) >= 20);
         }
     }
@@ -124,7 +126,7 @@ public final class ModelTest {
             return callMargins();
         } else if (kind < (normal ? 96 : 52)) {
             return declareDefault();
-        } else if (kind < (normal ? 98 : 75)) {
+        } else if (kind < (normal ? 98 : 88)) {
             return bid();
         }
         return closeAuction();
@@ -188,23 +190,43 @@ public final class ModelTest {
 
     private boolean bid() {
         int member = index(model.members);
-        int amount = chance(10) ? 0 : chance(30) ? below(7) - 3 : amount(1000000) * (chance(50) ? 1 : -1);
+        int amount = chance(10) ? 0 : chance(60) ? below(5) - 2 : amount(1000000) * (chance(50) ? 1 : -1);
         return answered("bid(" + member + ", " + amount + ")", model.bid(member, amount), house.bid(member, amount));
     }
 
     private boolean closeAuction() {
-        boolean withoutFunds = model.funds() == 0;
-        long fundsBefore = model.funds();
+        long funds = model.funds();
+        if (!model.normal()) {
+            sawAuction();
+        }
         boolean due = model.closeAuction();
         if (due) {
-            sawClosing(withoutFunds, fundsBefore);
+            sawClosing(funds);
         }
         return answered("closeAuction()", due, house.closeAuction());
     }
 
-    private void sawClosing(boolean withoutFunds, long funds) {
+    private void sawAuction() {
+        sawIf(model.house < 0, "house below 0 before");
+        if (!model.bids.isEmpty()) {
+            int highest = Collections.max(model.bids.values());
+            sawIf(Collections.frequency(model.bids.values(), highest) > 1, "a tie");
+            sawIf(highest < 0, "a bid below 0 wins");
+            sawIf(highest == 0, "a bid of 0 wins");
+        } else if (model.funds() > 0) {
+            int quantity = model.pos[model.defaulting()][0];
+            sawIf(quantity < 0, "a short allocated");
+            long whole = 0;
+            for (int j : model.survivors()) {
+                whole += Math.abs(quantity) * model.fund[j] / model.funds();
+            }
+            sawIf(whole < Math.abs(quantity), "units left over");
+        }
+    }
+
+    private void sawClosing(long funds) {
         long[] layers = model.waterfall;
-        saw(layers[5] >= 0 ? "sold" : withoutFunds ? "allocated without funds" : "allocated");
+        saw(layers[5] >= 0 ? "sold" : funds == 0 ? "allocated without funds" : "allocated");
         sawIf(layers[0] == 0, "no loss");
         sawIf(layers[1] > 0, "defaulter fund");
         sawIf(layers[2] > 0, "house");

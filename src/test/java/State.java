@@ -1,33 +1,38 @@
-/** All that can be read of a house, as one text, so that two moments can be compared. */
+import java.util.Map;
+import java.util.TreeMap;
+
+/**
+ * All that can be read of a house, under keys such as "house", "price 0" (the current one), "settlement 0", "layer 5",
+ * "status 1", "cash 1", "fund 1", "margin 1" (the requirement), "call 1" and "position 1 0" (member, then instrument).
+ * It reaches one past the greatest indexes on both sides.
+ */
 final class State {
     private State() { }
 
-    static String of(ClearingHouse house) {
-        StringBuilder text = new StringBuilder("house " + house.getHouse());
+    static Map<String, Long> of(ClearingHouse house) {
+        Map<String, Long> readings = new TreeMap<>();
+        readings.put("house", house.getHouse());
         for (int i = -1; i <= 4; i++) {
-            text.append("\n price ").append(i).append(": ").append(house.getPrice(i, ClearingHouse.CURRENT))
-                .append(' ').append(house.getPrice(i, ClearingHouse.SETTLEMENT));
+            readings.put("price " + i, (long) house.getPrice(i, ClearingHouse.CURRENT));
+            readings.put("settlement " + i, (long) house.getPrice(i, ClearingHouse.SETTLEMENT));
+        }
+        for (int layer = -1; layer <= 7; layer++) {
+            readings.put("layer " + layer, house.getWaterfall(layer));
         }
         for (int m = -1; m <= 8; m++) {
-            text.append("\n").append(ofMember(house, m));
+            addMember(readings, house, m);
         }
-        text.append("\n waterfall");
-        for (int layer = -1; layer <= 7; layer++) {
-            text.append(' ').append(house.getWaterfall(layer));
-        }
-        return text.toString();
+        return readings;
     }
 
-    private static String ofMember(ClearingHouse house, int m) {
-        StringBuilder text = new StringBuilder(" member " + m + ": status " + house.getStatus(m));
-        text.append(" cash ").append(house.getBalance(m, ClearingHouse.CASH));
-        text.append(" fund ").append(house.getBalance(m, ClearingHouse.FUND));
-        text.append(" margin ").append(house.getMargin(m, ClearingHouse.REQUIREMENT));
-        text.append(" call ").append(house.getMargin(m, ClearingHouse.CALL));
-        text.append(" positions");
+    private static void addMember(Map<String, Long> readings, ClearingHouse house, int m) {
+        readings.put("status " + m, (long) house.getStatus(m));
+        readings.put("cash " + m, house.getBalance(m, ClearingHouse.CASH));
+        readings.put("fund " + m, house.getBalance(m, ClearingHouse.FUND));
+        readings.put("margin " + m, house.getMargin(m, ClearingHouse.REQUIREMENT));
+        readings.put("call " + m, house.getMargin(m, ClearingHouse.CALL));
         for (int i = -1; i <= 4; i++) {
-            text.append(' ').append(house.getPosition(m, i));
+            readings.put("position " + m + " " + i, (long) house.getPosition(m, i));
         }
-        return text.toString();
     }
 }
