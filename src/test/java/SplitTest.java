@@ -6,7 +6,6 @@ import java.util.Arrays;
  * that the defaulter holds, and the loss that reaches the survivors' funds.
  */
 public final class SplitTest {
-    private static final int CASH = ClearingHouse.CASH;
     private static final int FUND = ClearingHouse.FUND;
 
     private SplitTest() { }
@@ -27,6 +26,7 @@ public final class SplitTest {
         givesAnEvenPartAUnitMore();
         splitsPastInt();
         splitsPast64Bits();
+        splitsToTheLastUnit();
         Check.finish();
     }
 
@@ -243,25 +243,34 @@ public final class SplitTest {
     /** A loss and funds whose product does not fit 64 bits: the parts are still the true floors. */
     private static void splitsPast64Bits() {
         Check.sentence("survivor j first gets floor(A * f(j) / F);");
-        int[][] deposits = {{0, 2400, 2500, 1}, {0, 4000, 2500, 1}, {0, 1, 9000, 1}, {0, 9000, 9000, 9000}};
-        for (int[] given : deposits) {
-            ClearingHouse house = new ClearingHouse(4, 4, 1, 10);
-            long[] funds = new long[4];
-            long total = 0;
-            for (int m = 1; m < 4; m++) {
-                funds[m] = given[m] * 1000000L - 123457 * m;
-                total += funds[m];
-                Scene.pay(house, m, FUND, funds[m]);
-            }
-            long shared = fails(house);
-            long left = shared;
-            for (int m = 1; m < 4; m++) {
-                left -= floor(shared, funds[m], total);
-            }
-            for (int m = 1; m < 4; m++) {
-                long due = funds[m] - floor(shared, funds[m], total) - (m <= left ? 1 : 0);
-                Check.number("fund " + m, due, house.getBalance(m, FUND));
-            }
+        shares(2399876543L, 2499753086L, 629629L);
+        shares(3999876543L, 2499753086L, 629629L);
+        shares(876543L, 8999753086L, 629629L);
+        shares(8999876543L, 8999753086L, 8999629629L);
+    }
+
+    /** With these funds A * f(3) is one short of a multiple of F, so that the quotient looks whole unless it is exact. */
+    private static void splitsToTheLastUnit() {
+        Check.sentence("survivor j first gets floor(A * f(j) / F);");
+        shares(2000000000L, 743539977L, 2256460030L);
+        shares(300000000L, 290636254L, 5409363747L);
+    }
+
+    private static void shares(long... funds) {
+        ClearingHouse house = new ClearingHouse(4, 4, 1, 10);
+        long total = 0;
+        for (int j = 0; j < 3; j++) {
+            total += funds[j];
+            Scene.pay(house, j + 1, FUND, funds[j]);
+        }
+        long shared = fails(house);
+        long left = shared;
+        for (int j = 0; j < 3; j++) {
+            left -= floor(shared, funds[j], total);
+        }
+        for (int j = 0; j < 3; j++) {
+            long due = funds[j] - floor(shared, funds[j], total) - (j < left ? 1 : 0);
+            Check.number("fund " + (j + 1), due, house.getBalance(j + 1, FUND));
         }
     }
 
