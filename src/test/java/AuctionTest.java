@@ -226,6 +226,14 @@ public final class AuctionTest {
         positions(house, 0, 2 - 1, -1, 0, 0);
         positions(house, 1, -5 + 2, 2, 0, 1);
         layers(house, 0, 0, 0, 0, 0, FORCED, 0);
+        for (int sign = -1; sign <= 1; sign += 2) {
+            house = Scene.funded(4, 0, 100, 200, 0, 300);
+            Scene.build(house, 2, 0, 1, sign);
+            Check.number("calls", 2, house.callMargins());
+            Check.yes("default", house.declareDefault(2));
+            Check.yes("a single unit", house.closeAuction());
+            positions(house, 1, -sign + sign, 0, 0, 0);
+        }
     }
 
     private static void leavesInstrumentsTheDefaulterDoesNotHold() {

@@ -30,22 +30,29 @@ public final class SplitTest {
         Check.finish();
     }
 
-    /** Member 0 fails with this amount of instrument 1, and no bid. Due are the parts of members 1, 2, .. */
+    /** The amount is split three times: as a long position, as a short one and as a loss. Due: members 1, 2, .. */
     private static void splits(int amount, int[] funds, int... due) {
+        String what = amount + " over " + Arrays.toString(funds) + ": ";
+        allocates(1, amount, funds, what, due);
+        allocates(-1, amount, funds, what, due);
+        charges(amount, funds, what, due);
+    }
+
+    /** Member 0 fails with this amount of instrument 1, long or short by the sign, and no bid. */
+    private static void allocates(int sign, int amount, int[] funds, String what, int... due) {
         ClearingHouse house = Scene.called(funds.length + 1, 8000);
         for (int j = 0; j < funds.length; j++) {
             Scene.pay(house, j + 1, FUND, funds[j]);
         }
-        Scene.build(house, 0, 1, 1, amount);
+        Scene.build(house, 0, 1, 1, sign * amount);
         Check.yes("default", house.declareDefault(0));
         Check.yes("close", house.closeAuction());
-        String what = amount + " over " + Arrays.toString(funds) + ": ";
         for (int j = 0; j < funds.length; j++) {
-            int own = j == 0 ? -amount : 0;
-            Check.number(what + "quantity of " + (j + 1), due[j], house.getPosition(j + 1, 1) - own);
+            int own = j == 0 ? -sign * amount : 0;
+            Check.number(what + "quantity of " + (j + 1), sign * due[j], house.getPosition(j + 1, 1) - own);
             Check.number(what + "no fund is charged", funds[j], house.getBalance(j + 1, FUND));
         }
-        charges(amount, funds, what, due);
+        Check.reads(house, "position 0 1", 0);
     }
 
     /** The same parts, of a loss: the bidder asks for the amount, and the house has paid the 8000 before it. */
